@@ -13,7 +13,9 @@ public final class SweetWraps {
     private static final int MOST_IN_FOIL_CALL = 999, MOST_FOIL = 9999;
     private static final int MOST_IN_RUN_CALL = 99, MOST_TICKS = 9999;
     private static final int MOST_TICKS_ASKED = 50, MOST_TICKS_OF_STANDS = 200;
-    private static final int PAD_ROOM = 80, MOST_CHARACTERS = 8, MOST_UNDONE = 6;
+    private static final int PAD_ROOM = 80, MOST_CHARACTERS = 8, MOST_VALUES = 3, MOST_UNDONE = 6;
+    private static final int FIRST_CODE = 33, LAST_CODE = 126;
+    private static final int LEAST_PERIOD = 2, MOST_NUMBER = 999;
     private static final int EMPTY_HOPPER = 1, NO_TIN = 2, TOO_LITTLE_FOIL = 3;
     private static final int[] LEAST_OF_SETTING = {1, 4, 1, 1};
     private static final int[] MOST_OF_SETTING = {9, 60, 99, 2};
@@ -24,7 +26,6 @@ public final class SweetWraps {
     private final Machine[] slots = new Machine[SLOTS];
     private final boolean[] saved = new boolean[SLOTS];
     private final Pad pad = new Pad();
-    private final Reader reader = new Reader(pad);
 
     public SweetWraps() {
         for (int slot = 0; slot < slots.length; slot++) {
@@ -161,38 +162,32 @@ public final class SweetWraps {
     }
 
     public int fault() {
-        return reader.findFault();
+        return pad.findFault();
     }
 
     public int carryOut() {
-        if (reader.findFault() != NONE) return BAD_TEXT;
+        if (pad.findFault() != NONE) return BAD_TEXT;
         history.prepare(now);
-        int carried = carryOrders();
+        pad.startReading();
+        int carried = 0;
+        for (int order = 0; order < PAD_ROOM; order++) {
+            if (!pad.readOrder() || carryOrder() < 0) break;
+            carried++;
+            if (!pad.readSign(';')) break;
+        }
         pad.clear();
         return history.record(carried);
     }
 
-    private int carryOrders() {
-        reader.begin();
-        int carried = 0;
-        for (int order = 0; order < PAD_ROOM; order++) {
-            if (!reader.readOrder()) return carried;
-            if (carryOrder() < 0) return carried;
-            carried++;
-            if (!reader.readSign(';')) return carried;
-        }
-        return carried;
-    }
-
     /** Goes past the public calls, because an order of a text records nothing by itself. */
     private int carryOrder() {
-        switch (reader.kind) {
-            case 'h': return now.addSweets(reader.values[0], reader.values[1], reader.values[2]);
-            case 'f': return now.addFoil(reader.values[0], reader.values[1]);
+        switch (pad.kind) {
+            case 'h': return now.addSweets(pad.values[0], pad.values[1], pad.values[2]);
+            case 'f': return now.addFoil(pad.values[0], pad.values[1]);
             case 't': return now.addTin();
-            case 's': return now.shipTin(reader.values[0]);
-            case 'a': return now.changeApart(reader.values[0], reader.values[1]);
-            case 'r': return now.runTicks(reader.values[0]);
+            case 's': return now.shipTin(pad.values[0]);
+            case 'a': return now.changeApart(pad.values[0], pad.values[1]);
+            case 'r': return now.runTicks(pad.values[0]);
             default: return BAD_TEXT;
         }
     }
@@ -240,6 +235,8 @@ public final class SweetWraps {
         final int[] apartFrom = new int[FLAVOURS];
         int tinCount;
         int ticks;
+        int foilPulled;
+        int foilWasted;
 
         Machine() {
             for (int lane = 0; lane < lanes.length; lane++) {
@@ -261,6 +258,8 @@ public final class SweetWraps {
             }
             tinCount = other.tinCount;
             ticks = other.ticks;
+            foilPulled = other.foilPulled;
+            foilWasted = other.foilWasted;
         }
 
         // -- changes: each one checks first, so that an error changes nothing
@@ -337,14 +336,20 @@ public final class SweetWraps {
         }
 
         private int workLane(Lane lane) {
-            int wrapped = 0;
+            int length = foilOfPull();
             int period = pullsUntilTear();
+            int wrapped = 0;
             lane.lastReason = 0;
             for (int attempt = 0; attempt < settings[SPEED]; attempt++) {
-                lane.lastReason = reasonOf(lane);
-                if (lane.lastReason != 0) return wrapped;
-                if (!lane.pullTears(foilOfPull(), period)) {
-                    tins[tinFor(lane.nextFlavour())].add(lane.nextFlavour());
+                int flavour = lane.nextFlavour();
+                int tin = tinFor(flavour);
+                lane.lastReason = reasonOf(lane, tin);
+                if (lane.lastReason != 0 || !isIndex(tin, TINS)) return wrapped;
+                foilPulled += length;
+                if (lane.pullTears(length, period)) {
+                    foilWasted += length;
+                } else {
+                    tins[tin].add(flavour);
                     lane.wrapNext();
                     wrapped++;
                 }
@@ -358,14 +363,19 @@ public final class SweetWraps {
 
         private int pullsUntilTear() {
             int speed = settings[SPEED];
-            return speed < 1 ? 2 : Math.max(2, settings[TEAR] / speed);
+            return speed < 1 ? LEAST_PERIOD : Math.max(LEAST_PERIOD, settings[TEAR] / speed);
+        }
+
+        /** Why a try of a lane, whose next sweet a tin takes or NONE, fails; 0 if it does not. */
+        private int reasonOf(Lane lane, int tin) {
+            if (lane.heaps == 0) return EMPTY_HOPPER;
+            if (tin == NONE) return NO_TIN;
+            return lane.foilLeft < foilOfPull() ? TOO_LITTLE_FOIL : 0;
         }
 
         /** Why the next try of a lane would fail, as it is now; 0 if it would not. */
-        private int reasonOf(Lane lane) {
-            if (lane.heaps == 0) return EMPTY_HOPPER;
-            if (tinFor(lane.nextFlavour()) < 0) return NO_TIN;
-            return lane.foilLeft < foilOfPull() ? TOO_LITTLE_FOIL : 0;
+        private int reasonNow(Lane lane) {
+            return reasonOf(lane, tinFor(lane.nextFlavour()));
         }
 
         /** The lowest tin that takes a sweet of a flavour; NONE if no tin does. */
@@ -390,7 +400,7 @@ public final class SweetWraps {
                 case 4: return asked.pulls;
                 case 5: return asked.torn;
                 case 6: return asked.wrapped;
-                case 7: return reasonOf(asked);
+                case 7: return reasonNow(asked);
                 default: return BAD_VALUE;
             }
         }
@@ -413,26 +423,10 @@ public final class SweetWraps {
             return sum;
         }
 
-        private int foilPulled() {
-            int sum = 0;
-            for (int lane = 0; lane < LANES; lane++) {
-                sum += lanes[lane].foilPulled;
-            }
-            return sum;
-        }
-
-        private int foilWasted() {
-            int sum = 0;
-            for (int lane = 0; lane < LANES; lane++) {
-                sum += lanes[lane].foilWasted;
-            }
-            return sum;
-        }
-
         private int standingLanes() {
             int set = 0;
             for (int lane = 0; lane < LANES; lane++) {
-                if (reasonOf(lanes[lane]) != 0) set |= 1 << lane;
+                if (reasonNow(lanes[lane]) != 0) set |= 1 << lane;
             }
             return set;
         }
@@ -585,8 +579,8 @@ public final class SweetWraps {
                 case 5: return overLanes(6);
                 case 6: return sweetsShipped();
                 case 7: return overLanes(3);
-                case 8: return foilPulled();
-                case 9: return foilWasted();
+                case 8: return foilPulled;
+                case 9: return foilWasted;
                 case 10: return standingLanes();
                 case 11: return settings[SPEED];
                 case 12: return settings[TEAR];
@@ -606,8 +600,6 @@ public final class SweetWraps {
         int pulls;
         int torn;
         int wrapped;
-        int foilPulled;
-        int foilWasted;
         /** Why the lane stood still in the tick that was worked last; no part of what is copied. */
         int lastReason;
 
@@ -619,8 +611,6 @@ public final class SweetWraps {
             pulls = other.pulls;
             torn = other.torn;
             wrapped = other.wrapped;
-            foilPulled = other.foilPulled;
-            foilWasted = other.foilWasted;
         }
 
         boolean isHeap(int heap) {
@@ -633,7 +623,7 @@ public final class SweetWraps {
 
         int sweetsInHopper() {
             int sum = 0;
-            for (int heap = 0; isHeap(heap); heap++) {
+            for (int heap = 0; heap < heaps && heap < HEAPS; heap++) {
                 sum += sweets[heap];
             }
             return sum;
@@ -641,7 +631,7 @@ public final class SweetWraps {
 
         int sweetsOf(int flavour) {
             int sum = 0;
-            for (int heap = 0; isHeap(heap); heap++) {
+            for (int heap = 0; heap < heaps && heap < HEAPS; heap++) {
                 if (flavours[heap] == flavour) sum += sweets[heap];
             }
             return sum;
@@ -661,11 +651,9 @@ public final class SweetWraps {
         /** Pulls foil for one sweet, and tells whether it is torn. */
         boolean pullTears(int length, int period) {
             foilLeft -= length;
-            foilPulled += length;
             pulls++;
             if (period < 1 || pulls % period != 0) return false;
             torn++;
-            foilWasted += length;
             return true;
         }
 
@@ -675,7 +663,7 @@ public final class SweetWraps {
             sweets[0]--;
             if (sweets[0] > 0) return;
             heaps--;
-            for (int heap = 0; isHeap(heap) && heap + 1 < HEAPS; heap++) {
+            for (int heap = 0; heap < heaps && heap + 1 < HEAPS; heap++) {
                 flavours[heap] = flavours[heap + 1];
                 sweets[heap] = sweets[heap + 1];
             }
@@ -754,18 +742,24 @@ public final class SweetWraps {
         }
     }
 
-    /** The text of orders. */
+    /** The text of orders, and its reading from left to right: where that fails, its place is the fault. */
     private static final class Pad {
         final char[] signs = new char[PAD_ROOM];
+        final int[] values = new int[MOST_VALUES];
         int length;
+        int place;
+        int kind;
+        int valueCount;
+
+        // -- writing
 
         int append(long characters) {
             int many = charactersIn(characters);
             if (many < 1) return BAD_VALUE;
             if (length + many > PAD_ROOM) return TOO_MANY;
             long rest = characters;
-            for (int place = length + many - 1; place >= length && place < PAD_ROOM; place--) {
-                signs[place] = (char) (rest & 255);
+            for (int index = length + many - 1; index >= length && isIndex(index, PAD_ROOM); index--) {
+                signs[index] = (char) (rest & 255);
                 rest >>>= 8;
             }
             length += many;
@@ -777,7 +771,7 @@ public final class SweetWraps {
             long rest = characters;
             int many = 0;
             while (rest != 0 && many < MOST_CHARACTERS) {
-                if (!isBetween((int) (rest & 255), 33, 126)) return 0;
+                if (!isBetween((int) (rest & 255), FIRST_CODE, LAST_CODE)) return 0;
                 rest >>>= 8;
                 many++;
             }
@@ -790,40 +784,25 @@ public final class SweetWraps {
             return had;
         }
 
-        /** The character at an index; 0, which the pad never holds, behind its end. */
-        int signAt(int index) {
-            return isIndex(index, length) && index < PAD_ROOM ? signs[index] : 0;
-        }
-    }
-
-    /** Reads the pad's orders from left to right; where a reading fails, its place is the fault. */
-    private static final class Reader {
-        final Pad pad;
-        final int[] values = new int[3];
-        int valueCount;
-        int kind;
-        int place;
-
-        Reader(Pad pad) {
-            this.pad = pad;
-        }
+        // -- reading
 
         int findFault() {
-            begin();
+            startReading();
             for (int order = 0; order < PAD_ROOM; order++) {
                 if (!readOrder()) return place;
-                if (place >= pad.length) return NONE;
+                if (place >= length) return NONE;
                 if (!readSign(';')) return place;
             }
             return place;
         }
 
-        void begin() {
+        void startReading() {
             place = 0;
         }
 
+        /** Reads an order: its letter into kind, and what it is about into values. */
         boolean readOrder() {
-            kind = pad.signAt(place);
+            kind = signHere();
             valueCount = 0;
             String shape = shapeOf(kind);
             for (int part = 0; part < shape.length(); part++) {
@@ -832,7 +811,7 @@ public final class SweetWraps {
             return !shape.isEmpty();
         }
 
-        /** The parts of an order: d is a digit, n a number, all else stands for itself. */
+        /** The parts of an order behind one another: d is a digit, n a number, all else stands for itself. */
         private static String shapeOf(int kind) {
             switch (kind) {
                 case 'h': return "hd.d*n";
@@ -845,38 +824,53 @@ public final class SweetWraps {
             }
         }
 
-        private boolean readPart(char part) {
+        private boolean readPart(int part) {
             switch (part) {
-                case 'd': return readNumber(9);
-                case 'n': return readNumber(999);
+                case 'd': return readDigit();
+                case 'n': return readNumber();
                 default: return readSign(part);
             }
         }
 
         boolean readSign(int sign) {
-            if (pad.signAt(place) != sign) return false;
+            if (signHere() != sign) return false;
             place++;
             return true;
         }
 
-        private boolean isDigit() {
-            return isBetween(pad.signAt(place), '0', '9');
+        private boolean readDigit() {
+            if (!isDigitHere()) return false;
+            keepValue(signHere() - '0');
+            place++;
+            return true;
         }
 
-        /** Reads a number up to a most, which is 9 for a single digit. */
-        private boolean readNumber(int most) {
-            if (!isDigit() || !isIndex(valueCount, values.length)) return false;
-            int value = pad.signAt(place) - '0';
+        private boolean readNumber() {
+            if (!isDigitHere()) return false;
+            int value = signHere() - '0';
             place++;
-            while (isDigit() && most > 9) {
-                int longer = value * 10 + pad.signAt(place) - '0';
-                if (value == 0 || longer > most) return false;
+            for (; place < length && isDigitHere(); place++) {
+                int longer = value * 10 + signHere() - '0';
+                if (value == 0 || longer > MOST_NUMBER) return false;
                 value = longer;
-                place++;
             }
+            keepValue(value);
+            return true;
+        }
+
+        private void keepValue(int value) {
+            if (!isIndex(valueCount, MOST_VALUES)) return;
             values[valueCount] = value;
             valueCount++;
-            return true;
+        }
+
+        private boolean isDigitHere() {
+            return isBetween(signHere(), '0', '9');
+        }
+
+        /** The character at the place of the reading; 0, which the pad never holds, behind the end. */
+        private int signHere() {
+            return place < length && isIndex(place, PAD_ROOM) ? signs[place] : 0;
         }
     }
 }
