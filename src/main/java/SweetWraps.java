@@ -618,7 +618,7 @@ public final class SweetWraps {
         }
 
         int nextFlavour() {
-            return isHeap(0) ? flavours[0] : NONE;
+            return heaps > 0 ? flavours[0] : NONE;
         }
 
         int sweetsInHopper() {
@@ -870,7 +870,7 @@ public final class SweetWraps {
 
         /** The character at the place of the reading; 0, which the pad never holds, behind the end. */
         private int signHere() {
-            return place < length && isIndex(place, PAD_ROOM) ? signs[place] : 0;
+            return place >= 0 && place < length && place < PAD_ROOM ? signs[place] : 0;
         }
     }
 }

@@ -1,4 +1,7 @@
-/** All that the questions answer of an object, but for the pad and the history, as one text. */
+/**
+ * All that the questions answer of an object, but for the pad and the history, as one text.
+ * It takes some 320 calls, so an object has it taken once, and is held against another of the same past.
+ */
 final class Facts {
     private Facts() {
     }
@@ -22,6 +25,21 @@ final class Facts {
         for (int what = 0; what < 15; what++) add(facts, x.count(what));
         add(facts, x.bestSpeed(7, 0), x.bestSpeed(7, 1), x.tinsFor());
         return facts.toString();
+    }
+
+    /** What a call could spoil besides: the pad, and the states that undo brings back. */
+    static String ofPadAndHistory(SweetWraps x) {
+        StringBuilder facts = new StringBuilder();
+        add(facts, x.count(15), x.fault(), x.count(16));
+        for (int undone = 0; undone < 7; undone++) {
+            add(facts, x.undo(), x.count(0), x.count(1), x.count(4), x.count(5), x.count(7), x.count(13));
+        }
+        return facts.toString();
+    }
+
+    static void due(String what, SweetWraps got, SweetWraps want) {
+        Check.same(what, of(got), of(want));
+        Check.same(what + ", pad and history", ofPadAndHistory(got), ofPadAndHistory(want));
     }
 
     private static void add(StringBuilder facts, int... numbers) {

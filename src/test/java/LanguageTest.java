@@ -9,16 +9,17 @@ import java.util.TreeSet;
 import java.util.regex.Matcher;
 import java.util.regex.Pattern;
 
-/** What can be seen of ../shared/LANGUAGE.md from outside: the face, forbidden words, and objects made by calls. */
+/** What can be seen of ../shared/LANGUAGE.md from outside: the face, words that it rules out, and the room of a run. */
 public final class LanguageTest {
-    private static final String FORBIDDEN = "\\b(throw|throws|try|catch|finally|synchronized|assert|import|package|"
-            + "volatile|native|System\\.(?!arraycopy)|Thread|Random|equals|hashCode|toString|Exact|float|double)\\b|->|::";
+    private static final String FORBIDDEN = "\\b(throw|throws|try|catch|finally|synchronized|assert|package|volatile|native|"
+            + "System\\.(?!arraycopy)\\w+|Thread|Random|\\w+Exact|import (?!java\\.util\\.(ArrayList|List|Arrays|Iterator);)"
+            + "|(boolean|int|String) (equals|hashCode|toString)\\()|::|(?<!\\bcase [^;]{0,80}|\\bdefault ?)->";
 
     public static void main(String[] args) throws Exception {
         face();
         nestedClasses();
         words();
-        objectsMadeByCalls();
+        roomOfARun();
         Check.finish();
     }
 
@@ -77,16 +78,15 @@ public final class LanguageTest {
         }
     }
 
-    /** The room of a run is small: after the constructor no call makes an object. */
-    private static void objectsMadeByCalls() {
-        SweetWraps x = new SweetWraps();
-        for (int round = 0; round < 3; round++) useAll(x);
+    /** A run has room for 7.3 million fields and elements, which are bytes at least. */
+    private static void roomOfARun() {
         com.sun.management.ThreadMXBean bean =
                 (com.sun.management.ThreadMXBean) java.lang.management.ManagementFactory.getThreadMXBean();
         long before = bean.getCurrentThreadAllocatedBytes();
-        for (int round = 0; round < 200; round++) useAll(x);
+        SweetWraps x = new SweetWraps();
+        for (int round = 0; round < 4; round++) useAll(x);
         long made = bean.getCurrentThreadAllocatedBytes() - before;
-        Check.due("bytes made by a round of calls", made / 200 / 16, 0);
+        Check.due("bytes made by a run, " + made, made < 7_300_000 ? 1 : 0, 1);
     }
 
     private static void useAll(SweetWraps x) {

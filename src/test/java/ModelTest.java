@@ -1,6 +1,6 @@
-/** Walks of several hundred calls on fresh objects, each answer held against the model's. All promises. */
+/** Walks of some 290 steps on fresh objects, which stay below 512 calls, each answer held against the model's. All promises. */
 public final class ModelTest {
-    private static final int WALKS = 600, STEPS = 370;
+    private static final int WALKS = 800, STEPS = 290;
 
     private long seed;
     private final SweetWraps x = new SweetWraps();

@@ -49,7 +49,7 @@ public final class UndoSaveTest {
         }
     }
 
-    private static void undoOfEach() {
+    private static SweetWraps machine() {
         SweetWraps x = new SweetWraps();
         for (int i = 0; i < 4; i++) x.tin();
         x.heap(1, 0, 20);
@@ -57,14 +57,21 @@ public final class UndoSaveTest {
         x.run(2);
         x.save(1);
         x.run(1);
+        return x;
+    }
+
+    private static void undoOfEach() {
+        String before = Facts.of(machine());
         for (int change = 0; change < 9; change++) {
-            String before = Facts.of(x);
-            int undoable = x.count(16);
+            SweetWraps x = machine();
             if (change == 8) Check.put(x, "t;a34;r9;s1");
             Check.due("change " + change, doChange(x, change) >= 0 ? 1 : 0, 1);
             Check.due("change " + change + " is seen", Facts.of(x).equals(before) ? 1 : 0, 0);
-            Check.due("change " + change + " can be undone", x.undo(), Math.min(5, undoable));
-            Check.due("change " + change + " is undone", Facts.of(x).equals(before) ? 1 : 0, 1);
+            x = machine();
+            if (change == 8) Check.put(x, "t;a34;r9;s1");
+            doChange(x, change);
+            Check.due("change " + change + " can be undone", x.undo(), 5);
+            Check.same("change " + change + " is undone", Facts.of(x), before);
         }
     }
 
@@ -82,14 +89,18 @@ public final class UndoSaveTest {
         }
     }
 
-    private static void undoBringsAllBack() {
+    private static SweetWraps machineWithTwoHeaps() {
         SweetWraps x = new SweetWraps();
         x.tin();
         x.heap(0, 0, 20);
         x.heap(0, 1, 20);
         x.foil(0, 99);
         x.run(3);
-        String before = Facts.of(x);
+        return x;
+    }
+
+    private static void undoBringsAllBack() {
+        SweetWraps x = machineWithTwoHeaps();
         x.run(5);
         x.ship(0);
         x.tin();
@@ -97,7 +108,7 @@ public final class UndoSaveTest {
         x.set(SweetWraps.TWIST, 2);
         x.foil(1, 5);
         for (int i = 5; i >= 0; i--) Check.due("undo()", x.undo(), i);
-        Check.due("all is as it was", Facts.of(x).equals(before) ? 1 : 0, 1);
+        Check.same("all is as it was", Facts.of(x), Facts.of(machineWithTwoHeaps()));
         Check.due("it goes on from there, pull 12 is torn", x.run(1), 2);
     }
 
@@ -131,29 +142,50 @@ public final class UndoSaveTest {
         Check.due("save(0) of a new one", x.save(0), 0);
         Check.due("restore(0) of a new one", x.restore(0), 0);
         Check.due("that is a change", x.count(16), 1);
+        work(x);
+        Check.due("save(1)", x.save(1), 1);
+        workOn(x);
+        Check.due("restore(1)", x.restore(1), 1);
+        Check.due("the pad stays", x.count(15), 1);
+        Check.due("the history stays", x.count(16), 6);
+        Check.due("undo of restore", x.undo(), 5);
+        Check.due("as it was before: tins", x.count(1), 2);
+        Check.due("restore(0)", x.restore(0), 0);
+        Check.due("as new", x.count(0) + x.count(1) + x.count(4) + x.count(7), 0);
+        Check.due("the other slot is as it was", x.restore(1), 1);
+        SweetWraps saved = new SweetWraps();
+        work(saved);
+        Check.same("as it was saved, again", Facts.of(x), Facts.of(saved));
+        undoOfRestore();
+    }
+
+    private static void undoOfRestore() {
+        SweetWraps x = new SweetWraps();
+        work(x);
+        x.save(1);
+        workOn(x);
+        x.restore(1);
+        x.undo();
+        SweetWraps y = new SweetWraps();
+        work(y);
+        workOn(y);
+        Check.same("as it was before", Facts.of(x), Facts.of(y));
+    }
+
+    private static void work(SweetWraps x) {
         x.tin();
         x.heap(0, 3, 30);
         x.foil(0, 60);
         x.run(2);
         x.apart(3, 4);
         x.set(SweetWraps.ROOM, 50);
-        Check.due("save(1)", x.save(1), 1);
-        String saved = Facts.of(x);
+    }
+
+    private static void workOn(SweetWraps x) {
         Check.put(x, "t");
         x.run(4);
         x.ship(0);
         x.tin();
-        String later = Facts.of(x);
-        Check.due("restore(1)", x.restore(1), 1);
-        Check.due("as it was saved", Facts.of(x).equals(saved) ? 1 : 0, 1);
-        Check.due("the pad stays", x.count(15), 1);
-        Check.due("the history stays", x.count(16), 6);
-        Check.due("undo of restore", x.undo(), 5);
-        Check.due("as it was before", Facts.of(x).equals(later) ? 1 : 0, 1);
-        Check.due("restore(0)", x.restore(0), 0);
-        Check.due("as new", x.count(0) + x.count(1) + x.count(4) + x.count(7), 0);
-        Check.due("the other slot is as it was", x.restore(1), 1);
-        Check.due("as it was saved, again", Facts.of(x).equals(saved) ? 1 : 0, 1);
     }
 
     private static void slotsAreKept() {
