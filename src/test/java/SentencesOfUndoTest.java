@@ -1,6 +1,7 @@
 /** Each sentence of promises 25 to 27. */
 public final class SentencesOfUndoTest {
     private static final String TEXT = "h2.0*9;t;f1+9;a34;r3;s1";
+    private static final int CHANGES = 10;
 
     public static void main(String[] args) {
         undo();
@@ -48,8 +49,6 @@ public final class SentencesOfUndoTest {
         Check.put(x, TEXT);
         return x;
     }
-
-    private static final int CHANGES = 10;
 
     private static int change(SweetWraps x, int change) {
         switch (change) {
